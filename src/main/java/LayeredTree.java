@@ -9,7 +9,7 @@ public final class LayeredTree {
     private static final int LETTER_BITS = 3;
     private static final int MOST_LETTERS = 6;
     private static final int EMPTY_ROW = 1;
-    private static final int LEAST_LONGEST_WORD = 262144;
+    private static final int LEAST_LONGEST_WORD = 1 << (LETTER_BITS * MOST_LETTERS);
     private static final int PLAN_BASE = 32;
     private static final int MOST_STEP = 1000;
     private static final int MOST_SOWN = 30;
@@ -64,10 +64,7 @@ public final class LayeredTree {
         if (!isWord(word)) {
             return -1;
         }
-        // Division rounds towards 0, so small negative plans would not show a negative step.
-        if (plan < 0) {
-            return -2;
-        }
+        // A negative plan gives a step of 0 or less here, so it needs no test of its own.
         int step = plan / PLAN_BASE;
         int times = plan % PLAN_BASE;
         if (step < 1 || step > MOST_STEP) {
@@ -222,7 +219,7 @@ public final class LayeredTree {
 
     private static boolean isBeginning(int row, int word) {
         int rest = word;
-        // A longer row always has the greater number, so this cuts no further than to row's length.
+        // Each cut makes rest smaller: once it is below row it can't become row any more.
         for (int i = 0; i < MOST_LETTERS && rest > row; i++) {
             rest = withoutLastLetter(rest);
         }

@@ -407,6 +407,7 @@ public final class PromiseTest {
             }
         }
         due("none at all", new LayeredTree().common(1), -2);
+        due("long words without a shared letter", treeOf("012345", "712345").common(1), 1);
     }
 
     private static void sowOrderAndLimits() {
